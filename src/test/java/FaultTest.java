@@ -190,7 +190,39 @@ public final class FaultTest {
         codes("more than its places", 1, false, 4, 3, 0, 3, 0, 3, 5, 3);
         codes("a row over its end", 2, false, 4, 3, 0, 3, 6, 3, 5, 3);
         codes("a row at its end", 2, true, 4, 3, 0, 3, 0, 3, 5, 3);
+        stopWithoutItsLastBit();
         nineByTables();
+        overTheGreatestImage();
+    }
+
+    /** CLEAR eight times, four places, STOP at 4 bits: 41 bits, of which 40 are there (or all). */
+    private static void stopWithoutItsLastBit() {
+        int[] codes = {4, 3, 4, 3, 4, 3, 4, 3, 4, 3, 4, 3, 4, 3, 4, 3, 0, 3, 1, 3, 0, 3, 2, 4, 5, 4};
+        Bytes all = Bytes.codes(codes);
+        T.due("bytes", all.size(), 6);
+        fault("all of STOP", small().image(0, 0, 2, 2, all).add(0x3B), 0, -1);
+        Bytes less = small().image(0, 0, 2, 2, all.first(5)).add(0x3B);
+        fault("STOP without its last bit", less, 9, small().size() + 10);
+    }
+
+    /** Rows of 1, 2, 3 .. places: the 91st goes over the 4096 places that there can be. */
+    private static void overTheGreatestImage() {
+        int[] codes = new int[2 * 93];
+        codes[0] = 4;
+        codes[1] = 3;
+        int next = 6;
+        int size = 3;
+        for (int i = 1; i <= 91; i++) {
+            codes[2 * i] = i == 1 ? 1 : next;
+            codes[2 * i + 1] = size;
+            next += i == 1 ? 0 : 1;
+            size += next == 1 << size ? 1 : 0;
+        }
+        codes[184] = 5;
+        codes[185] = size;
+        Bytes s = Bytes.screen(64, 64, 0, 1, 2);
+        int at = s.size() + 10;
+        fault("4186 of 4096 places", s.image(0, 0, 64, 64, Bytes.codes(codes)).add(0x3B), 9, at);
     }
 
     private static void nineByTables() {
@@ -200,6 +232,9 @@ public final class FaultTest {
             Bytes s = two.first(two.size()).image(0, 0, 1, 1, Bytes.single(index)).add(0x3B);
             fault("INDEX " + index + " of 2", s, index < 2 ? 0 : 9, index < 2 ? -1 : at);
         }
+        Bytes others = two.first(two.size());
+        others.image(0, 0, 1, 1, Bytes.codes(4, 3, 2, 3, 0, 3, 5, 3)).add(0x3B);
+        fault("INDEX 2 of 2 beside all that must be", others, 9, at);
         Bytes local = small().add(0x2C).two(0, 0, 1, 1).add(0x80).colours(1, 2);
         int least = local.size();
         local.add(2).rows(Bytes.single(2), 255).add(0x3B);

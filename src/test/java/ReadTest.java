@@ -1,3 +1,5 @@
+import java.util.Random;
+
 /** Promise 4: read, with all of STREAMS, BLOCKS and CODES. */
 public final class ReadTest {
     private static final Checks T = new Checks("ReadTest");
@@ -13,6 +15,7 @@ public final class ReadTest {
         readsNextAndClears();
         readsInterlaced();
         growsToTwelveBits();
+        readsLongCodes();
         keepsRowsWhenAllAreTold();
         readsTwentyFourImages();
         staysAtFaults();
@@ -236,6 +239,33 @@ public final class ReadTest {
                     same &= x.index(0, i) == (i * i + i / 7) % (1 << least);
                 }
                 T.due("all INDEXES", same, true);
+            }
+        }
+    }
+
+    /** 4096 places of few colours in no order, so that most codes are those of rows. */
+    private static void readsLongCodes() {
+        for (int least = 2; least <= 8; least++) {
+            for (int used = 2; used <= 1 << least; used *= 2) {
+                Random random = new Random(least * 1000 + used);
+                StringBuilder text = new StringBuilder();
+                for (int i = 0; i < 4096; i++) {
+                    text.append((char) random.nextInt(used));
+                }
+                PictureReel x = new PictureReel();
+                Bytes s = Bytes.screen(64, 64, 0, new int[1 << least]);
+                s.add(0x2C).two(0, 0, 64, 64).add(0, least);
+                s.rows(Bytes.codes(PlainReel.codesOf(text.toString(), least)), 255).add(0x3B);
+                T.due(used + " colours at LEAST " + least, s.readBy(x), 1);
+                boolean same = true;
+                for (int i = 0; i < 4096; i++) {
+                    same &= x.index(0, i) == text.charAt(i);
+                }
+                T.due("all INDEXES", same, true);
+                x.begin(1, 1, 0, 0);
+                Bytes written = s.first(13 + (3 << least)).control(0, 0, 0);
+                T.due("read again", s.readBy(x), 1);
+                T.due("written", x.write(), s.size() + written.size() - 13 - (3 << least));
             }
         }
     }

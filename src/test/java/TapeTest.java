@@ -77,6 +77,12 @@ public final class TapeTest {
         T.due("read all", x.read(12000), -1);
         T.due("fault", x.fault(0), 10);
         T.due("place", x.fault(1), 11980);
+        PictureReel z = new PictureReel();
+        WriteTest.begin11981(z);
+        T.due("write", z.write(), 11981);
+        T.due("take", z.take(), 11981);
+        T.due("feed one beyond", z.feed(1, 2, 3, 4, 5), -1);
+        T.due("none came", z.about(6), 11981);
         PictureReel y = new PictureReel();
         WriteTest.begin11980(y);
         y.write();

@@ -243,6 +243,14 @@ public final class WriteTest {
         x.frame(0, 0, 1, 1, 0, false);
     }
 
+    /** The same, but one of 47 and two of 25. */
+    static void begin11981(PictureReel x) {
+        begin11884(x);
+        x.frame(0, 0, 1, 1, 8, false);
+        x.frame(0, 0, 1, 1, 0, false);
+        x.frame(0, 0, 1, 1, 0, false);
+    }
+
     private static void begin11884(PictureReel x) {
         x.begin(64, 64, 256, 0);
         for (int f = 0; f < 14; f++) {
