@@ -5,6 +5,7 @@ import java.lang.reflect.Method;
 import java.lang.reflect.Modifier;
 import java.nio.file.Files;
 import java.nio.file.Path;
+import java.util.Arrays;
 import java.util.Set;
 import java.util.TreeSet;
 import java.util.regex.Matcher;
@@ -16,8 +17,18 @@ public final class LanguageTest {
     private static final Set<String> FACE = Set.of("feed", "take", "read", "fault", "begin", "colour",
         "frame", "control", "paint", "write", "out", "about", "frameOf", "colourOf", "index", "canvas");
 
-    public static void main(String[] args) throws IOException {
+    private static final Set<String> CALLS = Set.of(
+        "int feed(int, int, int, int, int)", "int take()", "int read(int)", "int fault(int)",
+        "boolean begin(int, int, int, int)", "boolean colour(int, int, int)",
+        "int frame(int, int, int, int, int, boolean)",
+        "boolean control(int, int, int, int, boolean)", "boolean paint(int, int, int, int)",
+        "int write()", "int out(int)", "int about(int)", "int frameOf(int, int)",
+        "int colourOf(int, int)", "int index(int, int)", "int canvas(int, int, int)");
+
+    public static void main(String[] args) throws IOException, ReflectiveOperationException {
         face();
+        calls();
+        none();
         names();
         words(Files.readString(Path.of("src/main/java/PictureReel.java")));
         lengths(Files.readString(Path.of("src/main/java/PictureReel.java")));
@@ -41,6 +52,30 @@ public final class LanguageTest {
         T.due("constructors", makers.length, 1);
         T.due("its parameters", makers[0].getParameterCount(), 0);
         T.due("final", Modifier.isFinal(PictureReel.class.getModifiers()), true);
+    }
+
+    private static void calls() {
+        Set<String> found = new TreeSet<>();
+        for (Method m : PictureReel.class.getMethods()) {
+            if (m.getDeclaringClass() == PictureReel.class) {
+                String types = Arrays.toString(m.getParameterTypes());
+                found.add(m.getReturnType() + " " + m.getName() + "("
+                    + types.substring(1, types.length() - 1) + ")");
+                T.due(m.getName() + " is a call of an object", Modifier.isStatic(m.getModifiers()), false);
+            }
+        }
+        for (String call : CALLS) {
+            T.due("the face has " + call, found.contains(call), true);
+        }
+        T.due("the face has so many calls", found.size(), CALLS.size());
+    }
+
+    private static void none() throws ReflectiveOperationException {
+        Field none = PictureReel.class.getField("NONE");
+        T.due("NONE is of the class", Modifier.isStatic(none.getModifiers()), true);
+        T.due("NONE stays", Modifier.isFinal(none.getModifiers()), true);
+        T.due("NONE is an int", none.getType() == int.class, true);
+        T.due("NONE", none.getInt(null), -1);
     }
 
     private static void names() {
